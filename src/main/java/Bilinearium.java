@@ -22,7 +22,7 @@ public final class Bilinearium {
 
     private final Cube[] cubes;
     private final Way[] ways;
-    // These four are made once and used by every call, so that calls make nothing.
+    // The next four are made once and used by every call, so that calls make nothing.
     private final Flat flat;
     private final Search search;
     private final Sums sums;
@@ -438,7 +438,7 @@ public final class Bilinearium {
         return additions;
     }
 
-    // ---- numbers, and rows of them
+    // ---- numbers, and rows of them: read and written here alone, so that no index goes untested
 
     private static boolean isBelow(int number, int end) {
         return number >= 0 && number < end;
@@ -480,7 +480,6 @@ public final class Bilinearium {
         }
     }
 
-    /** The number at a place of a vector that is told as a code. */
     private static int numberIn(int code, int size, int place, int prime) {
         if (prime < 2) {
             return 0;
@@ -492,12 +491,10 @@ public final class Bilinearium {
         return rest % prime;
     }
 
-    /** The code of the vector of zeros but for one number at a place. */
     private static int codeOf(int number, int size, int place, int prime) {
         return number * power(prime, size - 1 - place);
     }
 
-    /** The code of a vector with another one, times a number, added to it. */
     private static int addedCode(int code, int other, int times, int size, int prime) {
         int made = 0;
         for (int place = 0; place < size; place++) {
@@ -507,7 +504,6 @@ public final class Bilinearium {
         return made;
     }
 
-    /** The sum of the numbers of a vector, each times that of another one. */
     private static int multipliedCodes(int code, int other, int size, int prime) {
         int total = 0;
         for (int place = 0; place < size; place++) {
@@ -522,7 +518,7 @@ public final class Bilinearium {
         final int second;
         final int third;
         final int[] numbers;
-        /** n, as long as this is just the cube of a product of n by n matrices; otherwise 0. */
+        /** n, as long as this is just what matrices() made of n, n and n; otherwise 0, for no levels. */
         int square;
 
         Cube(int first, int second, int third) {
@@ -574,7 +570,6 @@ public final class Bilinearium {
             }
         }
 
-        /** The number of a slice at a place counted over its room. */
         int numberInSlice(int side, int slice, int at) {
             return get(numbers, indexInSlice(side, slice, at));
         }
@@ -671,7 +666,7 @@ public final class Bilinearium {
         private final long[] marks = new long[MARK_ROWS];
         private int count;
 
-        /** The fewest products of a cube that has no less than so many. */
+        /** The caller tells a number below which there is nothing to find. */
         int fewest(Cube cube, int noLess) {
             gatherSingles(cube);
             int whole = bitsOf(cube);
@@ -779,7 +774,6 @@ public final class Bilinearium {
             return added - Long.bitCount(filled);
         }
 
-        /** Makes new numbers of pairs; returns how many. */
         int sharePairs() {
             int pairs = 0;
             while (pairs < MOST_PAIRS && shareBestPair()) {
@@ -880,6 +874,7 @@ public final class Bilinearium {
             return code(product, side) == code(other, side);
         }
 
+        // The public methods' names are theirs alone: a flip is a turn here, to reduce is to shrink.
         void turn(int product, int other, int side) {
             int low = side == 0 ? 1 : 0;
             int high = side == 2 ? 1 : 2;
@@ -892,7 +887,6 @@ public final class Bilinearium {
             enterCode(product, side, addedCode(code(product, side), code(other, side), times, size, prime));
         }
 
-        /** Reduces this way; returns how many products were taken out. */
         int shrink() {
             int before = count;
             for (int turn = 0; turn < before; turn++) {
@@ -953,7 +947,6 @@ public final class Bilinearium {
             count--;
         }
 
-        /** Walks this way; returns the state then. */
         int wander(int state, int steps) {
             int drawn = state;
             boolean reduced = false;
@@ -993,7 +986,7 @@ public final class Bilinearium {
             return false;
         }
 
-        /** Counts the places at which the cube of this way is not its target; the room for it is lent. */
+        /** The room for the numbers is lent, so that a way need not have its own. */
         int countWrongPlaces(int[] entries) {
             for (int index = 0; index < CUBE_ROOM; index++) {
                 put(entries, index, 0);

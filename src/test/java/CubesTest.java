@@ -246,6 +246,7 @@ public final class CubesTest {
         Due.index("no second cube", () -> x.sum(0, 7));
         Due.index("no cube -1", () -> x.sum(-1, 0));
         Due.is("those refused have no number", 7, x.sum(4, 4));
+        unlikeSizes();
         Bilinearium full = full(2, 1, 1);
         Due.state("a sum behind 16", () -> full.sum(0, 15));
         Due.index("a wrong sum behind 16", () -> full.sum(0, 16));
@@ -254,6 +255,41 @@ public final class CubesTest {
             mixed.cube(1, 1, cube % 2 + 1);
         }
         Due.argument("an unlike sum behind 16", () -> mixed.sum(0, 1));
+    }
+
+    /** Sums and products of cubes with three unlike sizes, their last numbers being 1 and 2. */
+    private static void unlikeSizes() {
+        int[][] sizes = {{1, 2, 4}, {4, 1, 2}, {2, 4, 1}, {3, 2, 1}, {1, 3, 2}, {2, 1, 3}};
+        for (int[] size : sizes) {
+            Bilinearium x = withPrime(5);
+            x.cube(size[0], size[1], size[2]);
+            x.cube(size[0], size[1], size[2]);
+            x.set(0, size[0] - 1, size[1] - 1, size[2] - 1, 1);
+            x.set(1, size[0] - 1, size[1] - 1, size[2] - 1, 2);
+            x.sum(0, 1);
+            Due.is("the last number of the sum", 3, x.at(2, size[0] - 1, size[1] - 1, size[2] - 1));
+            Due.index("no more of i", () -> x.at(2, size[0], 0, 0));
+            Due.index("no more of j", () -> x.at(2, 0, size[1], 0));
+            Due.index("no more of k", () -> x.at(2, 0, 0, size[2]));
+            x.cube(1, 1, 1);
+            x.set(3, 0, 0, 0, 2);
+            x.product(2, 3);
+            Due.is("the last number of the product", 1, x.at(4, size[0] - 1, size[1] - 1, size[2] - 1));
+            Due.index("no more of i in the product", () -> x.at(4, size[0], 0, 0));
+            Due.index("no more of j in the product", () -> x.at(4, 0, size[1], 0));
+            Due.index("no more of k in the product", () -> x.at(4, 0, 0, size[2]));
+            x.product(3, 2);
+            Due.is("the other way round", 1, x.at(5, size[0] - 1, size[1] - 1, size[2] - 1));
+        }
+        Bilinearium y = withPrime(3);
+        y.cube(2, 1, 2);
+        y.cube(1, 4, 2);
+        y.set(0, 1, 0, 0, 2);
+        y.set(1, 0, 2, 1, 2);
+        y.product(0, 1);
+        Due.same("one number, of both", "0000,0000,0000,0000 0000,0000,0100,0000", numbers(y, 2, 2, 4, 4));
+        y.product(1, 0);
+        Due.same("the other way round", "0000,0000,0000,0000 0000,0000,0010,0000", numbers(y, 3, 2, 4, 4));
     }
 
     private static void promise10() {

@@ -188,6 +188,7 @@ public final class TellsTest {
         Due.argument("the least int", () -> x.ofWay(0, Integer.MIN_VALUE));
         wrongPlaces();
         sharing();
+        mostFirst();
         growth();
     }
 
@@ -229,6 +230,38 @@ public final class TellsTest {
         Due.is("the lower pair goes first", 7, z.ofWay(0, 3));
     }
 
+    /** Ways where another pair ahead would need another number of additions. */
+    private static void mostFirst() {
+        Due.is("the pair in three, not the last", 3, sharedFirst(15, 5, 15));
+        Due.is("the pair in three, not the first", 3, sharedFirst(15, 10, 15));
+        Due.is("the lower pair, not the last of several", 6, sharedFirst(13, 14, 10, 7));
+        Due.is("the lower second one", 4, sharedFirst(12, 3, 11, 13));
+        Due.is("of side 2: not the last", 2, sharedThird(15, 6, 7));
+        Due.is("of side 2: not the first", 2, sharedThird(15, 9, 13));
+        Due.is("of side 2: the lower pair", 5, sharedThird(10, 7, 13, 14));
+        Due.is("of side 2: the lower first one ahead of the lower second", 11,
+                sharedThird(11, 10, 13, 13, 15, 14, 7));
+        Due.is("of side 2: the lower second one", 4, sharedThird(13, 12, 11, 10));
+    }
+
+    private static int sharedFirst(int... codes) {
+        Bilinearium x = withCube(2, 4, 1, 1);
+        x.way(0);
+        for (int code : codes) {
+            x.multiply(0, code, 1, 0);
+        }
+        return x.ofWay(0, 3);
+    }
+
+    private static int sharedThird(int... codes) {
+        Bilinearium x = withCube(2, 1, 1, 4);
+        x.way(0);
+        for (int code : codes) {
+            x.multiply(0, 1, 1, code);
+        }
+        return x.ofWay(0, 3);
+    }
+
     private static void growth() {
         Bilinearium x = withCube(3, 4, 4, 2);
         x.way(0);
@@ -237,6 +270,10 @@ public final class TellsTest {
         Due.is("the greatest of two places", 20, x.ofWay(0, 4));
         append(x, 0, 80, 80, 3);
         Due.is("the other place", 25, x.ofWay(0, 4));
+        Bilinearium y = withCube(2, 1, 2, 4);
+        y.way(0);
+        append(y, 0, 1, 3, 1);
+        Due.is("the last place", 2, y.ofWay(0, 4));
     }
 
     private static void promise23() {
@@ -305,6 +342,19 @@ public final class TellsTest {
         x.way(0);
         Due.is("the greatest codes", 0, x.result(0, 2, 8, 2));
         Due.is("the greatest codes by the cube", 0, x.resultByCube(0, 2, 8, 2));
+        x.set(0, 0, 1, 2, 1);
+        x.set(0, 0, 0, 1, 2);
+        x.way(0);
+        x.plain(1);
+        Due.is("2 times 2", 1, x.result(1, 2, 2, 2));
+        Due.is("2 times 2 by the cube", 1, x.resultByCube(1, 2, 2, 2));
+        Due.is("2 times 1 times 2", 1, x.result(1, 2, 3, 1));
+        Due.is("2 times 1 times 2 by the cube", 1, x.resultByCube(1, 2, 3, 1));
+        Bilinearium y = withCube(3, 3, 2, 1, 0, 0, 0, 0, 1, 2);
+        y.way(0);
+        y.plain(0);
+        Due.is("1 times 2 and 2 times 1", 1, y.result(0, 1, 7, 0));
+        Due.is("1 times 2 and 2 times 1 by the cube", 1, y.resultByCube(0, 1, 7, 0));
         Due.argument("x 3", () -> x.result(0, 3, 0, 0));
         Due.argument("y 9", () -> x.result(0, 0, 9, 0));
         Due.index("place 3", () -> x.result(0, 0, 0, 3));

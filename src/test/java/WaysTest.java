@@ -121,6 +121,19 @@ public final class WaysTest {
             y.multiply(0, 1, 1, 1);
         }
         Due.is("no more than the 40", 40, y.plain(0));
+        int[][] sizes = {{1, 2, 4}, {4, 1, 2}, {2, 4, 1}, {3, 2, 1}, {1, 3, 2}, {2, 1, 3}};
+        for (int[] size : sizes) {
+            Bilinearium z = new Bilinearium();
+            z.prime(3);
+            z.cube(size[0], size[1], size[2]);
+            z.set(0, 0, 0, 0, 1);
+            z.set(0, size[0] - 1, size[1] - 1, size[2] - 1, 2);
+            z.way(0);
+            z.plain(0);
+            int[] powers = {1, 3, 9, 27};
+            Due.same("the first and the last place", powers[size[0] - 1] + "," + powers[size[1] - 1] + ","
+                    + powers[size[2] - 1] + " 2,1,1", products(z, 0));
+        }
     }
 
     private static void promise14() {
