@@ -34,12 +34,13 @@ final class Both {
     String ask(int kind, int[] a) {
         calls++;
         String want = Due.answerOf(() -> ofModel(kind, a));
-        String got = Due.answerOf(() -> ofMade(kind, a));
+        String got = Due.answerOf(() -> call(made, kind, a));
         Due.same(run + ", call " + calls + ": " + NAMES[kind] + java.util.Arrays.toString(a), want, got);
         return want;
     }
 
-    private long ofMade(int kind, int[] a) {
+    /** One call of the face, by its place in the interface. */
+    static long call(Bilinearium made, int kind, int[] a) {
         return switch (NAMES[kind]) {
             case "prime" -> made.prime(a[0]);
             case "cube" -> made.cube(a[0], a[1], a[2]);
@@ -53,7 +54,7 @@ final class Both {
             case "way" -> made.way(a[0]);
             case "multiply" -> made.multiply(a[0], a[1], a[2], a[3]);
             case "plain" -> made.plain(a[0]);
-            case "flip" -> flipMade(a);
+            case "flip" -> Scene.flip(made, a[0], a[1], a[2], a[3]);
             case "reduce" -> made.reduce(a[0]);
             case "walk" -> made.walk(a[0], a[1], a[2]);
             case "at" -> made.at(a[0], a[1], a[2], a[3]);
@@ -67,11 +68,6 @@ final class Both {
             case "resultByCube" -> made.resultByCube(a[0], a[1], a[2], a[3]);
             default -> made.levels(a[0], a[1], a[2] != 0);
         };
-    }
-
-    private long flipMade(int[] a) {
-        made.flip(a[0], a[1], a[2], a[3]);
-        return 0;
     }
 
     private long ofModel(int kind, int[] a) {
