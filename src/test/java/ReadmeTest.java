@@ -91,12 +91,12 @@ public final class ReadmeTest {
         return answer.endsWith("Exception") ? "throws " + answer : name.equals("flip") ? "nothing" : answer;
     }
 
-    /** The commands are run beside a copy of the sources, so that they leave nothing in the checkout. */
+    /** The commands are run in a room of their own, with links to the sources, so that they leave nothing in the checkout. */
     private void tryCommands() throws IOException, InterruptedException {
         Path room = Files.createTempDirectory("readme");
         try {
             Path home = Files.createDirectory(room.resolve("main"));
-            copy(Path.of("src"), home.resolve("src"));
+            Files.createSymbolicLink(home.resolve("src"), Path.of("src").toRealPath());
             Files.createSymbolicLink(room.resolve("shared"), Path.of("../shared").toRealPath());
             Files.writeString(home.resolve("Example.java"), example + "\n");
             Set<String> run = new LinkedHashSet<>();
@@ -130,16 +130,7 @@ public final class ReadmeTest {
         }
     }
 
-    private static void copy(Path from, Path to) throws IOException {
-        List<Path> paths;
-        try (Stream<Path> found = Files.walk(from)) {
-            paths = found.toList();
-        }
-        for (Path path : paths) {
-            Files.copy(path, to.resolve(from.relativize(path).toString()));
-        }
-    }
-
+    /** A link is deleted itself, not what is behind it. */
     private static void remove(Path room) throws IOException {
         List<Path> paths;
         try (Stream<Path> found = Files.walk(room)) {
