@@ -91,7 +91,7 @@ public final class ReadmeTest {
         return answer.endsWith("Exception") ? "throws " + answer : name.equals("flip") ? "nothing" : answer;
     }
 
-    /** The commands are run in a room of their own, with links to the sources, so that they leave nothing in the checkout. */
+    /** The commands are run in a room of their own, with links to the sources, so that the checkout stays as it is. */
     private void tryCommands() throws IOException, InterruptedException {
         Path room = Files.createTempDirectory("readme");
         try {
